@@ -134,6 +134,13 @@ final class EntriesTest {
         one.write(8, 0, 0, 48);
         Due.due("decode(1)", one.decode(1), 4);
         Due.due("best() of four", one.best(), 1);
+
+        ListDecoder least = new ListDecoder(13, 1);
+        for (int x = 0; x < 13; x++) {
+            least.put(x, 12 - x);
+            Due.due("decode(1)", least.decode(1), x + 1);
+            Due.due("best() of agreements of 1", least.best(), 0);
+        }
     }
 
     private static void correctAnswers() {
