@@ -1,175 +1,278 @@
-/** Promises 10 to 12: lowestThreshold, decode, size. */
+/** Promise 11: decode. */
 final class DecodeTest {
     public static void main(String[] args) {
-        lowestThresholdFollowsTheTable();
-        lowestThresholdIsAGetter();
-        decodeRefusesBelowTheLowest();
-        decodeTakesGreatThresholds();
-        decodeOfTheErasedWord();
-        decodeListsThirteen();
-        decodeListsInOrder();
-        decodeCountsNoErasedPosition();
-        decodeReplacesTheList();
-        sizeIsAGetter();
+        Due.sentence("Condition: a threshold below the lowest gives BAD_THRESHOLD", DecodeTest::belowTheLowest);
+        Due.sentence("and a list that was there stays", DecodeTest::refusedKeepsTheList);
+        Due.sentence("Zero is always refused", DecodeTest::zero);
+        Due.sentence("All negative thresholds are always refused", DecodeTest::negative);
+        Due.sentence("The lowest threshold itself is accepted", DecodeTest::theLowest);
+        Due.sentence("A threshold above m is accepted and gives an empty list", DecodeTest::aboveReceived);
+        Due.sentence("up to the greatest int", DecodeTest::theGreatest);
+        Due.sentence("With m = 0 every accepted threshold gives an empty list", DecodeTest::erasedWord);
+        Due.sentence("The messages whose agreement is at least the threshold: exactly it", DecodeTest::exactly);
+        Due.sentence("The messages whose agreement is at least the threshold: one less", DecodeTest::oneLess);
+        Due.sentence("exactly those messages, each once, in the order stated", DecodeTest::exactlyThose);
+        Due.sentence("with the present word", DecodeTest::presentWord);
+        Due.sentence("in place of any list, whatever threshold that one had: higher", DecodeTest::afterHigher);
+        Due.sentence("in place of any list, whatever threshold that one had: lower", DecodeTest::afterLower);
+        Due.sentence("in place of any list, whatever threshold that one had: the same", DecodeTest::afterTheSame);
+        Due.sentence("The word stays as it is, and so does m", DecodeTest::wordStays);
+        Due.sentence("The answer is the number of entries", DecodeTest::answersTheSize);
+        Due.sentence("0 if the list is empty; an empty list is a list", DecodeTest::emptyList);
         Due.end();
     }
 
-    private static void lowestThresholdFollowsTheTable() {
-        int[][] table = {
-            {1, 1, 1, 1, 1, 1, 1, 1, 1, 1, 1, 1, 1, 1},
-            {1, 2, 2, 3, 3, 3, 4, 4, 4, 4, 5, 5, 5, 5},
-            {1, 2, 3, 3, 4, 4, 5, 5, 5, 6, 6, 6, 7, 7}};
+    private static int lowest(Situation situation) {
+        return Model.LOWEST[situation.k() - 1][Due.held(situation.word())];
+    }
+
+    private static void belowTheLowest() {
         for (int k = 1; k <= 3; k++) {
             for (int n = 4; n <= 13; n++) {
                 for (int m = 0; m <= n; m++) {
                     ListDecoder decoder = new ListDecoder(n, k);
-                    decoder.write(m % 13, 0, 0, ((1 << m) - 1) << (n - m));
-                    String where = " for n " + n + ", k " + k + ", m " + m;
-                    int lowest = table[k - 1][m];
-                    Due.due("lowestThreshold()" + where, decoder.lowestThreshold(), lowest);
-                    Due.due("decode below the lowest" + where, decoder.decode(lowest - 1), ListDecoder.BAD_THRESHOLD);
-                    Due.due("size()" + where, decoder.size(), ListDecoder.NO_LIST);
-                    Due.due("decode at the lowest" + where, decoder.decode(lowest), lowest <= m ? 1 : 0);
-                    Due.due("lowestThreshold() with a list" + where, decoder.lowestThreshold(), lowest);
+                    decoder.write(12, 0, 0, (1 << m) - 1);
+                    for (int threshold = -1; threshold < Model.LOWEST[k - 1][m]; threshold++) {
+                        Due.answer(decoder, Call.decode(threshold), ListDecoder.BAD_THRESHOLD);
+                        Due.answer(decoder, Call.size(), ListDecoder.NO_LIST);
+                    }
                 }
             }
         }
     }
 
-    private static void lowestThresholdIsAGetter() {
-        ListDecoder decoder = new ListDecoder(5, 2);
-        decoder.write(4, 6, 0, 15);
-        decoder.decode(3);
-        Due.due("lowestThreshold()", decoder.lowestThreshold(), 3);
-        Due.word("after lowestThreshold", decoder, 4, 10, 3, 9, -1);
-        Due.list("after lowestThreshold", decoder, new int[] {4, 6, 0, 4});
-    }
-
-    private static void decodeRefusesBelowTheLowest() {
-        for (int k = 1; k <= 3; k++) {
-            ListDecoder decoder = new ListDecoder(4, k);
-            decoder.write(9, 0, 0, 7);
-            Due.due("decode(3)", decoder.decode(3), 1);
-            for (int bad : Due.EXTREMES) {
-                Due.due("decode(" + bad + ")", decoder.decode(bad), ListDecoder.BAD_THRESHOLD);
+    private static void refusedKeepsTheList() {
+        for (Situation situation : Situation.withList()) {
+            for (int threshold = -1; threshold < lowest(situation); threshold++) {
+                Due.keeps(situation, Call.decode(threshold), ListDecoder.BAD_THRESHOLD);
             }
-            Due.due("decode(0)", decoder.decode(0), ListDecoder.BAD_THRESHOLD);
-            if (k > 1) {
-                Due.due("decode(2)", decoder.decode(2), ListDecoder.BAD_THRESHOLD);
-            }
-            Due.word("refused decode", decoder, 9, 9, 9, -1);
-            Due.list("refused decode", decoder, new int[] {9, 0, 0, 3});
         }
     }
 
-    private static void decodeTakesGreatThresholds() {
-        for (int k = 1; k <= 3; k++) {
-            ListDecoder decoder = new ListDecoder(13, k);
-            decoder.write(9, 0, 0, 8191);
-            Due.due("decode(13)", decoder.decode(13), 1);
-            Due.list("decode(13)", decoder, new int[] {9, 0, 0, 13});
-            for (int threshold : new int[] {14, 15, 100, Integer.MAX_VALUE - 1, Integer.MAX_VALUE}) {
-                Due.due("decode(" + threshold + ")", decoder.decode(threshold), 0);
-                Due.list("decode(" + threshold + ")", decoder);
-            }
-            Due.due("received()", decoder.received(), 13);
+    private static void zero() {
+        for (Situation situation : Situation.all()) {
+            Due.keeps(situation, Call.decode(0), ListDecoder.BAD_THRESHOLD);
         }
     }
 
-    private static void decodeOfTheErasedWord() {
-        for (int k = 1; k <= 3; k++) {
-            ListDecoder decoder = new ListDecoder(8, k);
-            for (int threshold : new int[] {1, 2, 3, 8, Integer.MAX_VALUE}) {
-                Due.due("decode(" + threshold + ") of the erased word", decoder.decode(threshold), 0);
-                Due.due("size() of an empty list", decoder.size(), 0);
+    private static void negative() {
+        for (Situation situation : Situation.all()) {
+            for (int threshold : Numbers.BELOW_ZERO) {
+                Due.keeps(situation, Call.decode(threshold), ListDecoder.BAD_THRESHOLD);
             }
-            Due.due("decode(0) of the erased word", decoder.decode(0), ListDecoder.BAD_THRESHOLD);
-            Due.due("size() of an empty list after a refusal", decoder.size(), 0);
         }
     }
 
-    private static void decodeListsThirteen() {
+    private static void theLowest() {
+        for (int k = 1; k <= 3; k++) {
+            for (int n = 4; n <= 13; n++) {
+                for (int m = 0; m <= n; m++) {
+                    ListDecoder decoder = new ListDecoder(n, k);
+                    decoder.write(12, 0, 0, (1 << m) - 1);
+                    int lowest = Model.LOWEST[k - 1][m];
+                    Due.answer(decoder, Call.decode(lowest), m >= lowest ? 1 : 0);
+                    Due.answer(decoder, Call.size(), m >= lowest ? 1 : 0);
+                }
+            }
+        }
+    }
+
+    private static void aboveReceived() {
+        for (Situation situation : Situation.all()) {
+            int m = Due.held(situation.word());
+            for (int threshold = Math.max(m + 1, lowest(situation)); threshold <= 15; threshold++) {
+                ListDecoder decoder = situation.make();
+                Due.answer(decoder, Call.decode(threshold), 0);
+                Due.list("decode(" + threshold + ") on " + situation.name(), decoder);
+                Due.word("decode(" + threshold + ") on " + situation.name(), decoder, situation.word());
+            }
+        }
+    }
+
+    private static void theGreatest() {
+        for (Situation situation : Situation.all()) {
+            for (int threshold : new int[] {256, 65536, 65537, 1 << 30, Integer.MAX_VALUE - 1, Integer.MAX_VALUE}) {
+                ListDecoder decoder = situation.make();
+                Due.answer(decoder, Call.decode(threshold), 0);
+                Due.list("decode(" + threshold + ") on " + situation.name(), decoder);
+                Due.word("decode(" + threshold + ") on " + situation.name(), decoder, situation.word());
+            }
+        }
+    }
+
+    private static void erasedWord() {
+        for (int k = 1; k <= 3; k++) {
+            for (int n = 4; n <= 13; n++) {
+                ListDecoder decoder = new ListDecoder(n, k);
+                for (int threshold : new int[] {1, 2, 3, 4, 7, n, n + 1, Integer.MAX_VALUE}) {
+                    Due.answer(decoder, Call.decode(threshold), 0);
+                    Due.list("decode(" + threshold + ") of the erased word", decoder);
+                }
+                decoder.write(1, 0, 0, 15);
+                for (int x = 0; x < 4; x++) {
+                    decoder.erase(x);
+                }
+                Due.answer(decoder, Call.decode(1), 0);
+                Due.list("decode(1) of a word become erased", decoder);
+            }
+        }
+    }
+
+    /** A codeword with some positions disturbed has just the others as its agreement. */
+    private static void exactly() {
+        for (int k = 1; k <= 3; k++) {
+            for (int agreed = 7; agreed <= 13; agreed++) {
+                ListDecoder decoder = disturbed(k, agreed);
+                Due.answer(decoder, Call.decode(agreed), 1);
+                Due.list("decode(" + agreed + ")", decoder,
+                        new int[] {4, k >= 2 ? 9 : 0, k >= 3 ? 2 : 0, agreed});
+            }
+        }
+    }
+
+    private static void oneLess() {
+        for (int k = 1; k <= 3; k++) {
+            for (int agreed = 7; agreed <= 13; agreed++) {
+                ListDecoder decoder = disturbed(k, agreed);
+                Due.answer(decoder, Call.decode(agreed + 1), 0);
+                Due.list("decode(" + (agreed + 1) + ")", decoder);
+            }
+        }
+    }
+
+    /** The deltas 1, 2, 4, 8, 16, 32 lie on no line or parabola, so no other message agrees in 7 positions. */
+    private static ListDecoder disturbed(int k, int agreed) {
+        ListDecoder decoder = new ListDecoder(13, k);
+        decoder.write(4, k >= 2 ? 9 : 0, k >= 3 ? 2 : 0, 8191);
+        for (int x = agreed; x < 13; x++) {
+            decoder.disturb(x, 1 << (x - agreed));
+        }
+        return decoder;
+    }
+
+    /** Words made of pieces of several codewords, so that there are lists of many sizes; all thresholds. */
+    private static void exactlyThose() {
+        long state = 11;
+        for (int round = 0; round < 1500; round++) {
+            int k = 1 + round % 3;
+            int n = 4 + round / 3 % 10;
+            ListDecoder decoder = new ListDecoder(n, k);
+            Model model = new Model(n, k);
+            for (int piece = 0; piece < 4; piece++) {
+                state = state * 6364136223846793005L + 1442695040888963407L;
+                int bits = (int) (state >>> 34);
+                int mask = (bits >>> 12) % (1 << n);
+                int c0 = bits % 13;
+                int c1 = k >= 2 ? bits / 13 % 13 : 0;
+                int c2 = k >= 3 ? bits / 169 % 13 : 0;
+                Due.answer(decoder, Call.write(c0, c1, c2, mask), model.write(c0, c1, c2, mask));
+            }
+            for (int threshold = model.lowestThreshold(); threshold <= n + 1; threshold++) {
+                Due.answer(decoder, Call.decode(threshold), model.decode(threshold));
+                Due.list("decode(" + threshold + ") in round " + round, decoder, model.list.toArray(new int[0][]));
+            }
+        }
+    }
+
+    private static void presentWord() {
+        ListDecoder decoder = new ListDecoder(5, 1);
+        decoder.write(3, 0, 0, 31);
+        decoder.decode(1);
+        decoder.put(0, 9);
+        Due.answer(decoder, Call.decode(1), 2);
+        Due.list("after put", decoder, new int[] {3, 0, 0, 4}, new int[] {9, 0, 0, 1});
+        decoder.disturb(1, 6);
+        Due.answer(decoder, Call.decode(1), 2);
+        Due.list("after disturb", decoder, new int[] {3, 0, 0, 3}, new int[] {9, 0, 0, 2});
+        decoder.erase(4);
+        Due.answer(decoder, Call.decode(1), 2);
+        Due.list("after erase", decoder, new int[] {3, 0, 0, 2}, new int[] {9, 0, 0, 2});
+        decoder.write(0, 0, 0, 12);
+        Due.answer(decoder, Call.decode(1), 2);
+        Due.list("after write", decoder, new int[] {0, 0, 0, 2}, new int[] {9, 0, 0, 2});
+        decoder.correct(1);
+        Due.answer(decoder, Call.decode(1), 1);
+        Due.list("after correct", decoder, new int[] {9, 0, 0, 5});
+    }
+
+    /** Length 7: 2 stands once, 5 twice and 11 four times. */
+    private static ListDecoder oneTwoFour() {
+        ListDecoder decoder = new ListDecoder(7, 1);
+        decoder.write(11, 0, 0, 15);
+        decoder.write(5, 0, 0, 48);
+        decoder.write(2, 0, 0, 64);
+        return decoder;
+    }
+
+    private static void list(ListDecoder decoder, int threshold) {
+        int[][][] lists = {{{2, 0, 0, 1}, {5, 0, 0, 2}, {11, 0, 0, 4}}, {{5, 0, 0, 2}, {11, 0, 0, 4}},
+            {{11, 0, 0, 4}}, {{11, 0, 0, 4}}, {}};
+        int[][] due = lists[threshold - 1];
+        Due.answer(decoder, Call.decode(threshold), due.length);
+        Due.list("decode(" + threshold + ")", decoder, due);
+        for (int c0 : new int[] {2, 5, 11}) {
+            int index = ListDecoder.NONE;
+            for (int i = 0; i < due.length; i++) {
+                index = due[i][0] == c0 ? i : index;
+            }
+            Due.answer(decoder, Call.find(c0, 0, 0), index);
+        }
+    }
+
+    private static void afterHigher() {
+        ListDecoder decoder = oneTwoFour();
+        for (int threshold = 5; threshold >= 1; threshold--) {
+            list(decoder, threshold);
+        }
+        list(decoder, 5);
+        list(decoder, 1);
+    }
+
+    private static void afterLower() {
+        ListDecoder decoder = oneTwoFour();
+        for (int threshold = 1; threshold <= 5; threshold++) {
+            list(decoder, threshold);
+        }
+    }
+
+    private static void afterTheSame() {
+        for (int threshold = 1; threshold <= 5; threshold++) {
+            ListDecoder decoder = oneTwoFour();
+            list(decoder, threshold);
+            list(decoder, threshold);
+            list(decoder, threshold);
+        }
+    }
+
+    private static void wordStays() {
+        for (Situation situation : Situation.all()) {
+            ListDecoder decoder = situation.make();
+            for (int threshold = 0; threshold <= 14; threshold++) {
+                decoder.decode(threshold);
+                Due.word("decode(" + threshold + ") on " + situation.name(), decoder, situation.word());
+            }
+        }
+    }
+
+    private static void answersTheSize() {
         ListDecoder decoder = new ListDecoder(13, 1);
-        int[][] entries = new int[13][];
-        for (int x = 0; x < 13; x++) {
-            decoder.put(x, 12 - x);
-            entries[x] = new int[] {x, 0, 0, 1};
+        for (int count = 1; count <= 13; count++) {
+            decoder.put(count - 1, 13 - count);
+            Due.answer(decoder, Call.decode(1), count);
+            Due.answer(decoder, Call.size(), count);
         }
-        Due.due("decode(1) of thirteen symbols", decoder.decode(1), 13);
-        Due.list("decode(1) of thirteen symbols", decoder, entries);
-        Due.due("decode(2) of thirteen symbols", decoder.decode(2), 0);
     }
 
-    private static void decodeListsInOrder() {
-        ListDecoder byC0 = new ListDecoder(8, 1);
-        byC0.write(12, 0, 0, 7);
-        byC0.write(0, 0, 0, 24);
-        byC0.write(5, 0, 0, 224);
-        Due.due("decode(2)", byC0.decode(2), 3);
-        Due.list("order by c0", byC0, new int[] {0, 0, 0, 2}, new int[] {5, 0, 0, 3}, new int[] {12, 0, 0, 3});
-
-        // Two lines that both pass through (0, 7): they have the same c0.
-        ListDecoder byC1 = new ListDecoder(5, 2);
-        byC1.write(7, 11, 0, 7);
-        byC1.write(7, 2, 0, 24);
-        Due.due("decode(3)", byC1.decode(3), 2);
-        Due.list("order by c1", byC1, new int[] {7, 2, 0, 3}, new int[] {7, 11, 0, 3});
-
-        // x*x and -x*x meet at 0 alone.
-        ListDecoder byC2 = new ListDecoder(13, 3);
-        byC2.write(0, 0, 12, 127);
-        byC2.write(0, 0, 1, 8064);
-        Due.due("decode(7)", byC2.decode(7), 2);
-        Due.list("order by c2", byC2, new int[] {0, 0, 1, 7}, new int[] {0, 0, 12, 7});
-    }
-
-    private static void decodeCountsNoErasedPosition() {
-        ListDecoder decoder = new ListDecoder(13, 3);
-        decoder.write(3, 4, 5, 8191);
-        for (int x = 0; x < 6; x++) {
-            decoder.erase(2 * x);
+    private static void emptyList() {
+        for (Situation situation : Situation.withoutList()) {
+            ListDecoder decoder = situation.make();
+            Due.answer(decoder, Call.decode(14), 0);
+            Due.answer(decoder, Call.size(), 0);
+            Due.answer(decoder, Call.best(), ListDecoder.NONE);
+            Due.answer(decoder, Call.find(0, 0, 0), ListDecoder.NONE);
+            Due.answer(decoder, Call.agreement(0), ListDecoder.BAD_INDEX);
+            Due.answer(decoder, Call.coefficient(0, 0), ListDecoder.BAD_INDEX);
+            Due.answer(decoder, Call.correct(0), ListDecoder.BAD_INDEX);
         }
-        Due.due("received()", decoder.received(), 7);
-        Due.due("decode(8)", decoder.decode(8), 0);
-        Due.due("decode(7)", decoder.decode(7), 1);
-        Due.list("seven positions", decoder, new int[] {3, 4, 5, 7});
-
-        // An erased position is no zero: the message 0 must not gain by it.
-        ListDecoder zero = new ListDecoder(13, 1);
-        zero.put(4, 1);
-        Due.due("decode(1)", zero.decode(1), 1);
-        Due.list("one position", zero, new int[] {1, 0, 0, 1});
-    }
-
-    private static void decodeReplacesTheList() {
-        ListDecoder decoder = new ListDecoder(6, 1);
-        decoder.write(3, 0, 0, 15);
-        decoder.write(8, 0, 0, 48);
-        Due.due("decode(3)", decoder.decode(3), 1);
-        Due.list("decode(3)", decoder, new int[] {3, 0, 0, 4});
-        Due.due("decode(1)", decoder.decode(1), 2);
-        Due.list("decode(1)", decoder, new int[] {3, 0, 0, 4}, new int[] {8, 0, 0, 2});
-        Due.due("decode(5)", decoder.decode(5), 0);
-        Due.list("decode(5)", decoder);
-        Due.due("find(3, 0, 0) in the empty list", decoder.find(3, 0, 0), ListDecoder.NONE);
-        Due.due("decode(2)", decoder.decode(2), 2);
-        Due.list("decode(2)", decoder, new int[] {3, 0, 0, 4}, new int[] {8, 0, 0, 2});
-        Due.word("decode", decoder, 3, 3, 3, 3, 8, 8);
-    }
-
-    private static void sizeIsAGetter() {
-        ListDecoder decoder = new ListDecoder(4, 1);
-        Due.due("size()", decoder.size(), ListDecoder.NO_LIST);
-        Due.due("size() again", decoder.size(), ListDecoder.NO_LIST);
-        decoder.decode(1);
-        Due.due("size() of an empty list", decoder.size(), 0);
-        Due.due("size() of an empty list again", decoder.size(), 0);
-        decoder.put(0, 1);
-        decoder.put(1, 2);
-        Due.due("size() after put", decoder.size(), ListDecoder.NO_LIST);
-        decoder.decode(1);
-        Due.due("size() of a list", decoder.size(), 2);
-        Due.list("after size", decoder, new int[] {1, 0, 0, 1}, new int[] {2, 0, 0, 1});
-        Due.word("after size", decoder, 1, 2, -1, -1);
     }
 }

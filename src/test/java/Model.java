@@ -8,7 +8,7 @@ import java.util.TreeMap;
  * is found by drawing the curve through every k positions that are held.
  */
 final class Model {
-    private static final int[][] LOWEST = {
+    static final int[][] LOWEST = {
         {1, 1, 1, 1, 1, 1, 1, 1, 1, 1, 1, 1, 1, 1},
         {1, 2, 2, 3, 3, 3, 4, 4, 4, 4, 5, 5, 5, 5},
         {1, 2, 3, 3, 4, 4, 5, 5, 5, 6, 6, 6, 7, 7}};
