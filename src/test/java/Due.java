@@ -13,7 +13,13 @@ final class Due {
         sentence = text + " | ";
         sentences++;
         long before = asked;
-        test.run();
+        try {
+            test.run();
+        } catch (RuntimeException thrown) {
+            // The sentences that follow are still worth their tests.
+            wrong++;
+            System.out.println(sentence + "threw " + thrown + " at " + thrown.getStackTrace()[0]);
+        }
         if (asked == before) {
             wrong++;
             System.out.println(sentence + "its test asks nothing");
