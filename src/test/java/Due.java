@@ -18,7 +18,7 @@ final class Due {
         } catch (RuntimeException thrown) {
             // The sentences that follow are still worth their tests.
             wrong++;
-            System.out.println(sentence + "threw " + thrown + " at " + thrown.getStackTrace()[0]);
+            System.out.println(sentence + "threw " + thrown);
         }
         if (asked == before) {
             wrong++;
